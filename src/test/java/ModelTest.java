@@ -1,4 +1,5 @@
 import java.lang.reflect.Method;
+import java.lang.reflect.Modifier;
 import java.util.ArrayList;
 import java.util.Arrays;
 import java.util.Comparator;
@@ -11,7 +12,8 @@ public final class ModelTest {
     private static final int CALLS = 512;
     private static final int[] WILD = {-1, -2, -1000, 5, 6, 7, 8, 16, 31, 100, 201,
         Integer.MIN_VALUE, Integer.MAX_VALUE};
-    private static final Method[] METHODS = methods();
+    private static final Method[] METHODS = methods("");
+    private static final Method[] BUSY = methods("group event periods runs skids");
 
     private final Random random;
     private final CounterDeals x = new CounterDeals();
@@ -31,9 +33,12 @@ public final class ModelTest {
         Due.end();
     }
 
-    private static Method[] methods() {
+    /** The public methods that are named; "": all. */
+    private static Method[] methods(String names) {
         Method[] all = Arrays.stream(CounterDeals.class.getDeclaredMethods())
-            .filter(m -> java.lang.reflect.Modifier.isPublic(m.getModifiers())).toArray(Method[]::new);
+            .filter(m -> Modifier.isPublic(m.getModifiers()))
+            .filter(m -> names.isEmpty() || Arrays.asList(names.split(" ")).contains(m.getName()))
+            .toArray(Method[]::new);
         Arrays.sort(all, Comparator.comparing(Method::getName));
         return all;
     }
@@ -45,9 +50,10 @@ public final class ModelTest {
             boolean same;
             if (texts && random.nextInt(12) == 0) {
                 same = typesText();
+            } else if (random.nextInt(30) == 0) {
+                same = goesBack();
             } else {
-                Method m = METHODS[random.nextInt(METHODS.length)];
-                same = agrees(m.getName(), arguments(m));
+                same = callsAny();
             }
             if (!same) {
                 int from = Math.max(0, log.size() - 60);
@@ -74,6 +80,22 @@ public final class ModelTest {
             return false;
         }
         return got.longValue() == want.longValue();
+    }
+
+    private boolean callsAny() throws Exception {
+        Method m = METHODS[random.nextInt(METHODS.length)];
+        if (random.nextInt(2) == 0) {
+            m = BUSY[random.nextInt(BUSY.length)];
+        }
+        return agrees(m.getName(), arguments(m));
+    }
+
+    private boolean goesBack() throws Exception {
+        boolean same = true;
+        for (int steps = random.nextInt(7); steps >= 0 && same; steps--) {
+            same = agrees("back");
+        }
+        return same;
     }
 
     private boolean typesText() throws Exception {

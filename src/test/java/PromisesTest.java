@@ -774,6 +774,30 @@ public final class PromisesTest {
             0, 0, 1, 0, 1, 2);
         Due.is("digest", x.digest(), due);
         Due.is("digest changes nothing", x.digest(), due);
+        promise28Shared();
+    }
+
+    /** Two GROUPS on one COUNTER: RUNNING is not ENABLED, MOST is not SCALED. */
+    private static void promise28Shared() {
+        CounterDeals x = new CounterDeals();
+        x.counters(1);
+        x.rates(0, 0, 10);
+        x.rates(0, 1, 4);
+        x.group(0, 1, 0, 0, 0);
+        x.group(0, 1, 0, 0, 1);
+        x.runs(0, 2);
+        x.rates(0, 0, 7);
+        x.runs(0, 1);
+        Due.is("digest of two on one", x.digest(), hash(0, 0, 0, 0, 5,
+            1, 1, 2, 3, 0, 0, 0, 1, 1,
+            15, 15, 15, 15, 15, 15, 15, 15,
+            -1, 0, 3, 7, 4, 0, 0, 0, 0, 0, 0,
+            0, 1, 0, 0, 1, 1, 0, 0, 0, 1, 1,
+            0, 10, 0, 17, 25, 27,
+            3, 2,
+            0, 1, 0, 0, 1, 1, 0, 0, 0, 0, 0,
+            1, 4, -1, 4, 12, 12,
+            3, 1));
     }
 
     private static long hash(int... all) {

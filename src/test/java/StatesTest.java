@@ -9,8 +9,10 @@ public final class StatesTest {
         fiveAtMost();
         refusedLeavesNone();
         gettersLeaveNone();
+        refusedLeavesAllFive();
         groupsMadeAgain();
         goingOnFromBack();
+        samplesWaitAgain();
         Due.end();
     }
 
@@ -152,6 +154,21 @@ public final class StatesTest {
         Due.is("n", x.told(0), 2);
     }
 
+    private static void refusedLeavesAllFive() {
+        CounterDeals x = new CounterDeals();
+        for (int v = 1; v <= 7; v++) {
+            x.rates(0, 0, v);
+        }
+        x.counters(5);
+        Due.is("an ORDER ends all", Due.does(x, "c0 0 9;f0;f9;"), -1002);
+        x.event(0, 0);
+        for (int left = 4; left >= 0; left--) {
+            Due.is("back", x.back(), left);
+        }
+        Due.is("the oldest of five", x.rates(0, 0, 0), 2);
+        Due.is("TASKS", x.told(1), 1);
+    }
+
     private static void gettersLeaveNone() {
         CounterDeals x = busy();
         x.back();
@@ -213,5 +230,27 @@ public final class StatesTest {
         Due.holds("as if it had not been", seen(x).equals(seen(y)));
         Due.is("STATES", x.refused(4), 5);
         Due.is("digest", x.digest(), y.digest());
+    }
+
+    private static void samplesWaitAgain() {
+        CounterDeals x = new CounterDeals();
+        x.rates(0, 0, 30);
+        x.group(0, 1, 1, 0, 0);
+        x.group(0, 1, 1, 0, 0);
+        x.skids(2);
+        x.periods(0, 30);
+        x.runs(0, 1);
+        x.periods(0, 0);
+        x.periods(1, 30);
+        x.runs(0, 1);
+        // Due: of GROUP 0 in SLICE 2, of GROUP 1 in SLICE 3.
+        x.runs(0, 1);
+        Due.is("TOLD", x.told(4), 1);
+        x.back();
+        Due.is("TOLD no more", x.told(4), 0);
+        Due.is("wait again", x.told(5), 2);
+        x.runs(0, 2);
+        Due.are("TOLD as if for the first time", new int[] {x.sample(0, 0), x.sample(0, 2),
+            x.sample(1, 0), x.sample(1, 2), x.told(4), x.told(5)}, 0, 2, 1, 3, 2, 2);
     }
 }
