@@ -38,6 +38,7 @@ public final class SliceEdgesTest {
         scaledNone();
         scaledCut();
         mostBounds();
+        totalsOverTasks();
         lateEvent();
         Due.end();
     }
@@ -645,6 +646,27 @@ public final class SliceEdgesTest {
         x.runs(0, 1);
         Due.is("1 was added", x.scaled(0, 0, 1), 496);
         Due.is("SCALED: 199 times 6 by 3", x.scaled(0, 0, 0), 398);
+    }
+
+    /** "TOTALS of a GROUP are over all TASKS": in SCALED and MOST, too. */
+    private static void totalsOverTasks() {
+        CounterDeals x = new CounterDeals();
+        x.counters(1);
+        x.rates(0, 0, 10);
+        x.forks(0);
+        x.rates(1, 0, 40);
+        x.group(0, 1, 0, 1, 0);
+        x.group(0, 1, 0, 1, 1);
+        x.runs(0, 3);
+        x.runs(1, 2);
+        // GROUP 0: 10 - 10 | - 40
+        Due.is("COUNT in 0", x.count(0, 0, 0), 20);
+        Due.is("COUNT in 1", x.count(0, 0, 1), 40);
+        Due.is("SCALED: 60 times 5 by 3", x.scaled(0, 0, 0), 100);
+        Due.is("MOST: 60 and 2 times 40", x.scaled(0, 0, 1), 140);
+        x.exits(1);
+        Due.is("SCALED behind exits", x.scaled(0, 0, 0), 100);
+        Due.is("MOST behind exits", x.scaled(0, 0, 1), 140);
     }
 
     /** An EVENT that came later has no COUNT of what was ahead; TOTALS are the GROUP's. */

@@ -23,6 +23,8 @@ public final class StateEdgesTest {
         lastSliceGoesBack();
         queueAndTurnsGoBack();
         samplesGoBack();
+        waitingOnesGoBack();
+        placesUsedAgain();
         endedGoesBack();
         pinnedIsLiveAgain();
         backIsNoS();
@@ -34,16 +36,10 @@ public final class StateEdgesTest {
         Due.end();
     }
 
-    /** Two TASKS, GROUPS 0 (in THE QUEUE) and 1 (PINNED); no STATE to go back to. */
+    /** Two TASKS, GROUPS 0 (in THE QUEUE) and 1 (PINNED); one STATE to go back to. */
     private static CounterDeals ready() {
         CounterDeals x = new CounterDeals();
         Due.does(x, "f0;c0 0 70;g0 2 0 1 0;g0 1 1 1 1;r0 3;m3 7;");
-        for (int i = 0; i < 6; i++) {
-            x.skids(1);
-        }
-        for (int i = 0; i < 5; i++) {
-            x.back();
-        }
         return x;
     }
 
@@ -53,16 +49,15 @@ public final class StateEdgesTest {
         Due.is("back", x.back(), NO);
         Due.is("back again", x.back(), NO);
         Due.is("NO", x.refused(1), 2);
-        Due.is("ready: none", ready().refused(4), 0);
-        Due.is("ready: T", ready().told(3), 3);
+        Due.is("ready: one", ready().refused(4), 1);
     }
 
     private static void leaves(String name, ToIntFunction<CounterDeals> call, int answer) {
         CounterDeals x = ready();
         CounterDeals y = ready();
         Due.is(name, call.applyAsInt(x), answer);
-        Due.is(name + " leaves one", x.refused(4), 1);
-        Due.is(name + " back", x.back(), 0);
+        Due.is(name + " leaves one", x.refused(4), 2);
+        Due.is(name + " back", x.back(), 1);
         x.clear();
         y.clear();
         Due.is(name + " back: all is as it was", x.digest(), y.digest());
@@ -100,9 +95,10 @@ public final class StateEdgesTest {
         CounterDeals x = ready();
         x.counters(3);
         call.applyAsInt(x);
-        Due.is(name + " leaves none", x.refused(4), 1);
+        Due.is(name + " leaves none", x.refused(4), 2);
         x.back();
         Due.is(name + ": back goes ahead of counters", x.told(0), 2);
+        x.back();
         call.applyAsInt(x);
         Due.is(name + " leaves none, where there is none", x.refused(4), 0);
     }
@@ -286,6 +282,54 @@ public final class StateEdgesTest {
         Due.is("LEFT", x.of(0, 8), 0);
         x.back();
         Due.is("no PERIOD", x.of(0, 7), 0);
+    }
+
+    /** SAMPLES that wait go back with their GROUPS and the SLICES in which they are due. */
+    private static void waitingOnesGoBack() {
+        CounterDeals x = new CounterDeals();
+        Due.does(x, "c0 0 30;g0 1 1 0 0;g0 1 1 0 0;");
+        x.skids(3);
+        x.periods(1, 30);
+        x.runs(0, 1);
+        x.periods(0, 30);
+        x.periods(1, 0);
+        x.runs(0, 1);
+        // Due: of GROUP 1 in SLICE 3, of GROUP 0 in SLICE 4.
+        x.skids(0);
+        x.runs(0, 4);
+        x.back();
+        x.back();
+        Due.is("wait", x.told(5), 2);
+        x.periods(0, 0);
+        x.runs(0, 2);
+        Due.is("of GROUP 1", x.sample(0, 0), 1);
+        Due.is("in SLICE 3", x.sample(0, 2), 3);
+        Due.is("one waits", x.told(5), 1);
+        x.runs(0, 1);
+        Due.is("of GROUP 0", x.sample(1, 0), 0);
+        Due.is("in SLICE 4", x.sample(1, 2), 4);
+        Due.is("no more", x.told(4) + x.told(5), 2);
+    }
+
+    /** TASKS, GROUPS and EVENTS in places that others had know nothing of them. */
+    private static void placesUsedAgain() {
+        CounterDeals x = new CounterDeals();
+        Due.does(x, "f0;c1 0 99;c1 3 50;g1 3 0 1 0 3 0 0;g0 2 0 1 0;m3 2;r1 4;r0 2;");
+        x.clear();
+        x.back();
+        x.forks(0);
+        x.group(0, 5, 1, 0, 3);
+        x.group(0, 1, 0, 0, 0);
+        x.event(0, 4);
+        CounterDeals y = new CounterDeals();
+        y.forks(0);
+        y.group(0, 5, 1, 0, 3);
+        y.group(0, 1, 0, 0, 0);
+        y.event(0, 4);
+        Due.is("as if the others had not been", x.digest(), y.digest());
+        x.runs(0, 3);
+        y.runs(0, 3);
+        Due.is("going on", x.digest(), y.digest());
     }
 
     private static void endedGoesBack() {

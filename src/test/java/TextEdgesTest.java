@@ -422,6 +422,8 @@ public final class TextEdgesTest {
         }
         ends("f0;".repeat(5) + "m0 1;".repeat(20) + "f9;", 25);
         done("f0;".repeat(5) + "m0 1;".repeat(21), 26);
+        ends("f0;".repeat(40), 5);
+        fault("f0;".repeat(39) + "f0:", 119);
     }
 
     /** "S (one STATE for all)"; a FAULT, an end: "no S". */
