@@ -35,6 +35,7 @@ public final class SliceEdgesTest {
         turnOfTheFirstThatWatched();
         turnKeptOverOtherTasks();
         goesToTheEndAlone();
+        goesBehindThoseThatDoNotWatch();
         scaledNone();
         scaledCut();
         mostBounds();
@@ -586,6 +587,20 @@ public final class SliceEdgesTest {
         Due.is("TURN is 0", x.of(0, 6), 0);
         Due.is("its place", x.of(0, 9), 0);
         Due.is("no other", x.queue(1), NONE);
+    }
+
+    /** "the GROUP goes to the end of THE QUEUE": behind those that WATCH none or another TASK, too. */
+    private static void goesBehindThoseThatDoNotWatch() {
+        CounterDeals x = new CounterDeals();
+        x.forks(0);
+        x.group(0, 1, 0, 0, 0);
+        x.group(1, 1, 0, 0, 0);
+        x.group(0, 1, 0, 0, 0);
+        x.lives(2, 0);
+        x.runs(0, 1);
+        Due.are("THE QUEUE", new int[] {x.queue(0), x.queue(1), x.queue(2)}, 1, 2, 0);
+        x.runs(1, 1);
+        Due.are("THE QUEUE then", new int[] {x.queue(0), x.queue(1), x.queue(2)}, 2, 0, 1);
     }
 
     /** "SCALED ..; none, if RUNNING is 0": also if it was ENABLED. */
